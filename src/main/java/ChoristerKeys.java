@@ -263,7 +263,7 @@ public final class ChoristerKeys {
     }
 
     public int ask() {
-        return heard.bestDoor();
+        return heard.bestDoor(heard.suspects());
     }
 
     // ---- kinds, images
@@ -487,19 +487,18 @@ public final class ChoristerKeys {
             start = at;
             if (at >= length) {
                 token = END;
-            } else if (isDigit(text[at])) {
-                takeDigits();
-            } else {
-                token = isSign(text[at]) ? text[at] : OTHER;
-                at++;
+                return;
             }
-        }
-
-        private void takeDigits() {
+            int first = text[at];
+            at++;
+            if (!isDigit(first)) {
+                token = isSign(first) ? first : OTHER;
+                return;
+            }
+            value = first - '0';
             boolean zeroAhead = false;
-            value = 0;
             while (at < length && isDigit(text[at])) {
-                zeroAhead = zeroAhead || (at > start && value == 0);
+                zeroAhead = zeroAhead || value == 0;
                 // Held just above what a number may be, however many digits there are.
                 value = Math.min(10 * value + text[at] - '0', TOP_NUMBER + 1);
                 at++;
@@ -508,7 +507,7 @@ public final class ChoristerKeys {
         }
 
         private static boolean isDigit(int letter) {
-            return within(letter, '0', '9');
+            return letter >= '0' && letter <= '9';
         }
 
         private static boolean isSign(int letter) {
@@ -909,8 +908,8 @@ public final class ChoristerKeys {
             return suspects;
         }
 
-        int bestDoor() {
-            int suspects = suspects();
+        /** The door that parts the suspects best. */
+        int bestDoor(int suspects) {
             int number = Integer.bitCount(suspects);
             if (number <= 1) {
                 return NONE;

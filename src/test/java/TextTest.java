@@ -205,6 +205,22 @@ final class TextTest {
         CHECK.due("no doors", keys.count(1), 0);
         CHECK.due("no boys", keys.count(2), 0);
         CHECK.due("the trace goes on still", keys.trace(), 1);
+        oneTextBehindTheOther();
+    }
+
+    private static void oneTextBehindTheOther() {
+        ChoristerKeys keys = new ChoristerKeys();
+        Check.typed(keys, "s7;n1");
+        CHECK.due("a fault", keys.city(), -13);
+        CHECK.due("clear()", keys.clear(), 5);
+        Check.typed(keys, "n3;s8;d2 1 5;");
+        CHECK.due("s once in each text", keys.city(), 3);
+        Check.typed(keys, "s9;d0 1 5;");
+        CHECK.due("s once in each text", keys.city(), 2);
+        CHECK.due("step", keys.count(3), 9);
+        CHECK.due("places as at first", keys.count(0), 2);
+        Check.typed(keys, "d2 1 5;");
+        CHECK.due("place 2 is gone", keys.city(), -11);
     }
 
     private static String repeat(String item, int times) {

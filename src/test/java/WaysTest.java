@@ -50,6 +50,10 @@ final class WaysTest {
         CHECK.due("it is taken", keys.posts(1), -9);
         CHECK.due("his own", keys.posts(2), 2);
         CHECK.due("what is left", keys.posts(3), 1);
+        keys.props(1, 1);
+        CHECK.due("as it is now", keys.posts(1), 1);
+        keys.props(1, 0);
+        CHECK.due("as it is now", keys.posts(1), -9);
         ChoristerKeys yields = CHECK.told("d0 1 5;d0 1 9;b5 9 7 8 0;b5 5 7 8 0;");
         CHECK.due("two", yields.posts(-1), 2);
         CHECK.due("not the lowest, for the other's sake", yields.posts(0), 1);
@@ -141,6 +145,11 @@ final class WaysTest {
         fraction(keys, 3, 1, 98, 125);
         fraction(CHECK.told("b0 1 7 8 0;b0 1 7 8 0;b0 1 7 8 0;b0 1 7 8 0;b0 1 7 8 0;"), 1, 4, 99999, 100000);
         fraction(new ChoristerKeys(), 5, 0, 1, 1);
+        ChoristerKeys five = CHECK.told("b0 1 7 8 0;b0 1 7 8 0;b0 1 7 8 0;b0 1 7 8 0;b0 1 7 8 0;");
+        fraction(five, 10, 4, 0, 1);
+        fraction(five, 10, 5, 1, 1);
+        fraction(five, 5, 4, 31, 32);
+        fraction(five, 0, 0, 1, 1);
         CHECK.due("x above 10", keys.odds(11, 0, 0), -1);
         CHECK.due("k above 5", keys.odds(0, 6, 0), -1);
         CHECK.due("what above 1", keys.odds(0, 0, 2), -1);
