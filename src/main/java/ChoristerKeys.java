@@ -749,8 +749,8 @@ public final class ChoristerKeys {
             this.choir = choir;
         }
 
+        // No boys open no doors: keysOfSet[0] is 0 from the first and stays so.
         private void takeKeys() {
-            keysOfSet[0] = 0;
             for (int b = 0; b < choir.city.boys; b++) {
                 int keys = choir.keys(b, 0);
                 int bit = 1 << b;
@@ -770,10 +770,12 @@ public final class ChoristerKeys {
 
         int fewestForAll() {
             takeKeys();
+            int boys = allBoys();
+            int doors = allDoors();
             int best = NONE;
-            for (int set = 0; set <= allBoys(); set++) {
+            for (int set = 0; set <= boys; set++) {
                 boolean fewer = best == NONE || Integer.bitCount(set) < Integer.bitCount(best);
-                if (fewer && keysOfSet[set] == allDoors()) {
+                if (fewer && keysOfSet[set] == doors) {
                     best = set;
                 }
             }

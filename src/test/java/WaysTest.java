@@ -149,6 +149,8 @@ final class WaysTest {
         fraction(five, 10, 4, 0, 1);
         fraction(five, 10, 5, 1, 1);
         fraction(five, 5, 4, 31, 32);
+        fraction(five, 5, 5, 1, 1);
+        fraction(five, 2, 5, 1, 1);
         fraction(five, 0, 0, 1, 1);
         CHECK.due("x above 10", keys.odds(11, 0, 0), -1);
         CHECK.due("k above 5", keys.odds(0, 6, 0), -1);
