@@ -1,6 +1,9 @@
 /** What the tests have in common: answers that are due, texts typed at a stroke. */
 final class Check {
     private final String test;
+    private String sentence = "";
+    private int askedOfSentence = 0;
+    private int sentences = 0;
     private int asked = 0;
     private int wrong = 0;
 
@@ -8,12 +11,33 @@ final class Check {
         this.test = test;
     }
 
+    /** The sentence of the document that the checks from here on are about: none goes without a check. */
+    void sentence(String words) {
+        endSentence();
+        sentence = ", \"" + words + "\"";
+        sentences++;
+    }
+
+    private void endSentence() {
+        if (!sentence.isEmpty() && askedOfSentence == 0) {
+            wrong++;
+            System.out.println(test + sentence + ": nothing is asked");
+        }
+        askedOfSentence = 0;
+    }
+
     void due(String call, long got, long want) {
         asked++;
+        askedOfSentence++;
         if (got != want) {
             wrong++;
-            System.out.println(test + ": " + call + " answered " + got + ", due is " + want);
+            System.out.println(test + sentence + ": " + call + " answered " + got + ", due is " + want);
         }
+    }
+
+    /** A written call on an object, and what it has to answer. */
+    void due(Asked keys, String call, long want) {
+        due(call, keys.answers(call), want);
     }
 
     void holds(String what, boolean so) {
@@ -34,6 +58,15 @@ final class Check {
         return keys;
     }
 
+    /** The same, to be asked by written calls. */
+    Asked asked(String text) {
+        Asked keys = new Asked().types(text);
+        if (keys.answers("city()") < 0) {
+            holds("city() of \"" + text + "\" is told", false);
+        }
+        return keys;
+    }
+
     /** What city() answers to a text on a new object. */
     static int read(String text) {
         ChoristerKeys keys = new ChoristerKeys();
@@ -42,7 +75,9 @@ final class Check {
     }
 
     void end() {
-        System.out.println(test + ": " + asked + " answers, " + wrong + " wrong");
+        endSentence();
+        String of = sentences == 0 ? "" : " to " + sentences + " sentences";
+        System.out.println(test + ": " + asked + " answers" + of + ", " + wrong + " wrong");
         if (wrong != 0 || asked == 0) {
             System.exit(1);
         }

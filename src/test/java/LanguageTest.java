@@ -14,9 +14,7 @@ import java.util.regex.Pattern;
 /** Rules of LANGUAGE.md that can be looked up in the source or in the compiled class. */
 final class LanguageTest {
     private static final Check CHECK = new Check("LanguageTest");
-    private static final Set<String> FACE = Set.of("type", "clear", "city", "door", "boy", "now", "goes", "colds",
-        "props", "year", "michaelmas", "undo", "way", "posts", "tune", "thirds", "odds", "hears", "forget", "who",
-        "ask", "rate", "keep", "back", "count", "trace");
+    private static final Set<String> FACE = Set.copyOf(Calls.NAMES);
     private static final Set<String> CONSTANTS = Set.of("BAD", "STATE", "FULL", "NONE", "NO");
 
     public static void main(String[] args) throws IOException {

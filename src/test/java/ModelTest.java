@@ -2,9 +2,6 @@
 final class ModelTest {
     private static final Check CHECK = new Check("ModelTest");
     private static final int RUNS = 3000, CALLS = 512;
-    private static final String[] CALL_NAMES = {"type", "clear", "city", "door", "boy", "now", "goes", "colds",
-        "props", "year", "michaelmas", "undo", "way", "posts", "tune", "thirds", "odds", "hears", "forget", "who",
-        "ask", "rate", "keep", "back", "count", "trace"};
     // How often each call comes among 64 (the texts are typed apart from these).
     private static final int[] SHARES = {1, 1, 1, 4, 10, 5, 7, 3, 3, 2, 2, 2, 3, 3, 3, 2, 2, 4, 1, 3, 3, 3, 1, 1, 1, 1};
     private static final int[] FAR = {-1, -2, 8, 41, 256, Integer.MIN_VALUE, Integer.MAX_VALUE, Integer.MIN_VALUE + 1};
@@ -45,10 +42,10 @@ final class ModelTest {
     }
 
     private static void compare(int run, int at, ChoristerKeys keys, PlainModel model, int call, int a, int b, int c) {
-        long got = answer(keys, call, a, b, c);
+        long got = Calls.answer(keys, call, a, b, c);
         long want = model.answer(call, a, b, c);
         if (got != want) {
-            CHECK.due("run " + run + ", call " + at + ": " + CALL_NAMES[call] + "(" + a + ", " + b + ", " + c + ")", got, want);
+            CHECK.due("run " + run + ", call " + at + ": " + Calls.written(Calls.NAMES.get(call), a, b, c), got, want);
         } else {
             CHECK.due("", 0, 0);
         }
@@ -169,37 +166,6 @@ final class ModelTest {
             } else {
                 text.setLength(at);
             }
-        }
-    }
-
-    private static long answer(ChoristerKeys keys, int call, int a, int b, int c) {
-        switch (call) {
-            case 0: return keys.type(a);
-            case 1: return keys.clear();
-            case 2: return keys.city();
-            case 3: return keys.door(a, b);
-            case 4: return keys.boy(a, b);
-            case 5: return keys.now(a);
-            case 6: return keys.goes(a, b);
-            case 7: return keys.colds(a, b);
-            case 8: return keys.props(a, b);
-            case 9: return keys.year();
-            case 10: return keys.michaelmas();
-            case 11: return keys.undo();
-            case 12: return keys.way(a, b);
-            case 13: return keys.posts(a);
-            case 14: return keys.tune(a);
-            case 15: return keys.thirds(a, b);
-            case 16: return keys.odds(a, b, c);
-            case 17: return keys.hears(a, b);
-            case 18: return keys.forget();
-            case 19: return keys.who();
-            case 20: return keys.ask();
-            case 21: return keys.rate(a, b);
-            case 22: return keys.keep(a);
-            case 23: return keys.back(a);
-            case 24: return keys.count(a);
-            default: return keys.trace();
         }
     }
 }
