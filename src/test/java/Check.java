@@ -1,9 +1,12 @@
+import java.util.HashSet;
+import java.util.Set;
+
 /** What the tests have in common: answers that are due, texts typed at a stroke. */
 final class Check {
     private final String test;
     private String sentence = "";
     private int askedOfSentence = 0;
-    private int sentences = 0;
+    private final Set<String> sentences = new HashSet<>();
     private int asked = 0;
     private int wrong = 0;
 
@@ -15,7 +18,7 @@ final class Check {
     void sentence(String words) {
         endSentence();
         sentence = ", \"" + words + "\"";
-        sentences++;
+        sentences.add(words);
     }
 
     private void endSentence() {
@@ -76,7 +79,7 @@ final class Check {
 
     void end() {
         endSentence();
-        String of = sentences == 0 ? "" : " to " + sentences + " sentences";
+        String of = sentences.isEmpty() ? "" : " to " + sentences.size() + " sentences";
         System.out.println(test + ": " + asked + " answers" + of + ", " + wrong + " wrong");
         if (wrong != 0 || asked == 0) {
             System.exit(1);

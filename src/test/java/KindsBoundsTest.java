@@ -16,6 +16,7 @@ final class KindsBoundsTest {
         traceAtFirst();
         traceOfEachBody();
         traceOfMany();
+        theLastCall();
         imagesKept();
         imagesKeepNow();
         imagesAreCopies();
@@ -29,13 +30,16 @@ final class KindsBoundsTest {
     }
 
     private static void kindsAndBoys() {
-        CHECK.sentence("RATE. NO: BAD.");
+        CHECK.sentence("1 TREBLE, 2 ALTO, 5 BASS (each under BOY); 3 SOLOIST (under TREBLE); 4 TWIN (under ALTO).");
         Asked keys = CHECK.asked(CITY);
         int[] first = {8, 38, 6, 76, 6, 8};
         int[] last = {9, 49, 7, 98, 8, 11};
         for (int kind = 0; kind <= 5; kind++) {
             CHECK.due(keys, Calls.written("rate", kind, 0), first[kind]);
             CHECK.due(keys, Calls.written("rate", kind, 1), last[kind]);
+        }
+        CHECK.sentence("RATE. NO: BAD.");
+        for (int kind = 0; kind <= 5; kind++) {
             CHECK.due(keys, Calls.written("rate", kind, 2), NO);
             CHECK.due(keys, Calls.written("rate", kind, -1), NO);
             CHECK.due(new Asked(), Calls.written("rate", kind, 0), NO);
@@ -86,6 +90,8 @@ final class KindsBoundsTest {
         CHECK.due(CHECK.asked("d0 1 1;".repeat(8) + "b1 1 7 8 0;"), "rate(2, 0)", -1);
         CHECK.due(CHECK.asked("d0 1 1;".repeat(8) + "b2 2 7 8 0;").does("props(7, 1)"), "rate(2, 0)", 6);
         CHECK.due(CHECK.asked("d0 1 1;".repeat(8) + "b1 1 7 8 0;").does("props(7, 1)"), "rate(2, 0)", -1);
+        CHECK.due(CHECK.asked("d0 1 1;d0 1 9;b1 9 7 8 0;").does("colds(0, 1)"), "rate(2, 0)", 6);
+        CHECK.due(CHECK.asked("d0 1 13;d0 1 9;b9 13 7 8 0;").does("year()"), "rate(2, 0)", 8);
     }
 
     private static void numbers() {
@@ -131,8 +137,6 @@ final class KindsBoundsTest {
 
     private static void traceOfMany() {
         CHECK.sentence("numbers in brackets are added to THE TRACE");
-        Asked bass = CHECK.asked(CITY).does(450, "rate(5, 0)");
-        CHECK.due(bass, "trace()", 450 * 100001L);
         Asked keys = CHECK.asked(CITY);
         long due = 0;
         for (int times = 1; times <= 30; times++) {
@@ -142,6 +146,14 @@ final class KindsBoundsTest {
             }
             CHECK.due(keys, "trace()", due);
         }
+    }
+
+    private static void theLastCall() {
+        CHECK.sentence("An object is used for at most 512 calls after it has been made");
+        Asked bass = CHECK.asked("b0 1 7 8 0;").does(499, "rate(5, 0)");
+        CHECK.due(bass, "trace()", 499 * 100001L);
+        Asked deeds = CHECK.asked("d0 1 0;s1;").does(500, "michaelmas()");
+        CHECK.due(deeds, "door(0, 2)", 500 % 41);
     }
 
     private static void imagesKept() {

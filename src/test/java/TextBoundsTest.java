@@ -35,6 +35,7 @@ final class TextBoundsTest {
         zeroAheadOfOthers();
         endsTooEarly();
         theFirstFaultCounts();
+        constants();
         newObject();
         type();
         clear();
@@ -508,6 +509,16 @@ final class TextBoundsTest {
         fault("s41", 1);
         fault("s00", 1);
         fault("n2;d0 1 41;d0 1 42;", 8);
+    }
+
+    private static void constants() {
+        CHECK.sentence("public static final int BAD = -1, STATE = -2, FULL = -3, NONE = -9;");
+        CHECK.due("BAD", ChoristerKeys.BAD, -1);
+        CHECK.due("STATE", ChoristerKeys.STATE, -2);
+        CHECK.due("FULL", ChoristerKeys.FULL, -3);
+        CHECK.due("NONE", ChoristerKeys.NONE, -9);
+        CHECK.sentence("`NO = -1000000`: What is BAD, where a number may be below 0.");
+        CHECK.due("NO", ChoristerKeys.NO, -1000000);
     }
 
     private static void newObject() {

@@ -49,6 +49,9 @@ final class WaysBoundsTest {
         CHECK.due(CHECK.asked("n8;d7 6 5;d6 5 5;d5 4 5;d4 3 5;d3 2 5;d2 1 5;d1 0 5;b5 5 7 8 7;"), "boy(0, 8)", 255);
         CHECK.due(CHECK.asked("n8;d0 1 5;d1 2 6;d2 3 5;b5 5 7 8 0;"), "boy(0, 8)", 3);
         CHECK.due(CHECK.asked("n8;d0 1 5;b5 5 7 8 0;").does("goes(0, 0)"), "boy(0, 8)", 3);
+        CHECK.due(CHECK.asked("d0 1 5;b4 5 7 8 0;").does("colds(0, 1)"), "boy(0, 8)", 1);
+        CHECK.due(CHECK.asked("d0 1 15;b15 15 7 8 0;").does("year()"), "boy(0, 8)", 1);
+        CHECK.due(CHECK.asked("d0 1 3;b15 15 7 8 0;").does("year()"), "boy(0, 8)", 3);
     }
 
     private static void way() {
@@ -63,6 +66,9 @@ final class WaysBoundsTest {
             CHECK.due(row, Calls.written("way", 0, far), BAD);
             CHECK.due(row, Calls.written("way", far, 0), BAD);
         }
+        CHECK.due(CHECK.asked("d0 1 5;b4 5 7 8 0;").does("colds(0, 1)"), "way(0, 1)", NONE);
+        CHECK.due(CHECK.asked("d0 1 15;b15 15 7 8 0;").does("year()"), "way(0, 1)", NONE);
+        CHECK.due(CHECK.asked("d0 1 3;b15 15 7 8 0;").does("year()"), "way(0, 1)", 1);
         CHECK.sentence("WAY; NONE. BAD.");
         CHECK.due(row, "way(0, 7)", 7);
         CHECK.due(row, "way(0, 8)", BAD);
@@ -204,7 +210,9 @@ final class WaysBoundsTest {
         Asked keys = CHECK.asked(text);
         CHECK.due(text + " posts(-1)", keys.answers("posts(-1)"), most);
         for (int b = 0; b < each.length; b++) {
-            CHECK.due(text + " posts(" + b + ")", keys.answers(Calls.written("posts", b)), each[b]);
+            String call = Calls.written("posts", b);
+            CHECK.due(text + " " + call, keys.answers(call), each[b]);
+            CHECK.due(text + " " + call + " first of all", CHECK.asked(text).answers(call), each[b]);
         }
         CHECK.due(text + " posts(" + each.length + ")", keys.answers(Calls.written("posts", each.length)), BAD);
     }
@@ -334,6 +342,10 @@ final class WaysBoundsTest {
         keys.does("colds(0, 1)");
         CHECK.due(keys, "thirds(0, 1)", 1);
         CHECK.due(keys, "thirds(0, 2)", 1);
+        CHECK.sentence("THIRDS. BAD.");
+        CHECK.due(keys, "thirds(3, 3)", BAD);
+        CHECK.due(keys, "thirds(3, 0)", 0);
+        CHECK.due(keys, "thirds(3, 4)", BAD);
         for (int far : FAR) {
             CHECK.due(keys, Calls.written("thirds", 0, far), BAD);
             CHECK.due(keys, Calls.written("thirds", far, 0), BAD);
@@ -435,6 +447,7 @@ final class WaysBoundsTest {
         CHECK.due(CHECK.asked("d0 1 5;b5 5 7 8 0;b5 5 7 8 0;"), "ask()", 0);
         CHECK.due(CHECK.asked("b5 5 7 8 0;".repeat(5)), "ask()", NONE);
         CHECK.due(CHECK.asked("b5 5 7 8 0;b5 5 7 8 0;"), "ask()", NONE);
+        CHECK.sentence("ASK; NONE.");
         Asked keys = CHECK.asked("d0 1 5;d0 1 6;b5 6 7 8 0;b5 5 7 8 0;b6 6 7 8 0;").does("hears(0, 1)");
         CHECK.due(keys, "who()", 3);
         CHECK.due(keys, "ask()", 1);
