@@ -28,7 +28,7 @@ final class RefusalsTest {
         "hears(1, 0)", "props(1, 1)", "keep(0)", "michaelmas()");
     private static final Story ALL_FULL = new Story("all full",
         "n8;d0 1 20;d1 2 22;d2 3 8;d3 4 30;d4 5 12;d5 6 20;d6 7 5;d7 0 20;"
-            + "b18 30 8 9 0;b5 20 7 20 3;b20 24 12 12 7;b0 40 7 14 1;b8 8 9 10 2;s7;", "n3;d2 1 7;n",
+            + "b18 30 8 9 0;b5 20 7 20 3;b20 24 12 12 7;b0 40 7 14 1;b8 8 9 10 2;s7;", "n3;d2 1 7;n" + " ".repeat(139),
         8, 8, 5, "keep(0)", "goes(0, 0)", "colds(1, 3)", "props(2, 1)", "goes(3, 0)", "michaelmas()", "year()", "year()",
         "keep(1)", "props(7, 1)", "goes(0, 7)", "props(2, 0)", "colds(4, 9)", "michaelmas()", "goes(3, 7)", "rate(4, 4)",
         "hears(0, 1)", "hears(7, 0)", "hears(3, 0)", "hears(2, 0)", "hears(1, 1)", "hears(6, 0)");
@@ -227,7 +227,7 @@ final class RefusalsTest {
         eachRefused(NOBODY, STATE, "props(0, 0)", "props(1, 1)", "back(1)");
         eachRefused(ALL_FULL, STATE, "goes(1, 0)", "goes(1, 7)", "goes(2, 5)", "goes(4, 1)", "goes(4, 2)", "colds(0, 0)",
             "colds(1, 0)", "colds(4, 9)", "props(7, 1)", "props(2, 0)", "props(0, 0)");
-        eachRefused(ALL_FULL, FULL, "hears(0, 0)", "hears(0, 1)", "hears(7, 0)", "hears(7, 1)");
+        eachRefused(ALL_FULL, FULL, "hears(0, 0)", "hears(0, 1)", "hears(7, 0)", "hears(7, 1)", "type(0)", "type(255)");
         eachRefused(FULL_TEXT, STATE, "colds(0, 0)", "colds(1, 0)", "props(0, 1)", "props(1, 0)", "back(1)");
         eachRefused(FULL_TEXT, FULL, "type(0)", "type(32)", "type(59)", "type(255)");
         eachRefused(LAST_YEAR, STATE, "year()", "goes(0, 1)", "goes(0, 0)", "goes(1, 0)", "colds(1, 2)", "colds(0, 0)",
@@ -246,7 +246,7 @@ final class RefusalsTest {
     private static void badAheadOfFull() {
         CHECK.sentence("BAD; FULL.");
         eachRefused(FULL_TEXT, BAD, "type(-1)", "type(256)", "type(" + Integer.MAX_VALUE + ")", "type(" + Integer.MIN_VALUE + ")");
-        eachRefused(ALL_FULL, BAD, "hears(8, 0)", "hears(-1, 0)", "hears(0, 2)", "hears(7, -1)");
+        eachRefused(ALL_FULL, BAD, "hears(8, 0)", "hears(-1, 0)", "hears(0, 2)", "hears(7, -1)", "type(-1)", "type(256)");
     }
 
     private static void refusedTexts() {
